@@ -357,9 +357,10 @@ public final class PromisesTest {
         for (int n = 1; n <= 45; n++) {
             x.set(timerOf(n), 1, 0);
             x.pass(1);
-            for (int i = n == 45 ? -1 : n - 1; i <= n && i <= 21; i += 3) {
-                due("12: after " + n + ", rung " + i, x.rung(i), i >= 0 && i < n && i < 20 ? timerOf(n - i) : NONE);
-            }
+            int kept = n < 20 ? n : 20;
+            due("12: after " + n + ", the last", x.rung(0), timerOf(n));
+            due("12: after " + n + ", the first kept", x.rung(kept - 1), timerOf(n - kept + 1));
+            due("12: after " + n + ", before that", x.rung(kept), NONE);
         }
         for (int i = 0; i < 20; i++) {
             due("12: rung " + i, x.rung(i), timerOf(45 - i));

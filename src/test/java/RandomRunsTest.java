@@ -9,6 +9,8 @@ import java.util.TreeMap;
 public final class RandomRunsTest {
     private static final int RUNS = 1500;
     private static final int CALLS = 512;
+    // Set, pass, rung and rungAt stand for more than one number, so that they are called more often.
+    private static final int METHODS = 19;
     private static final int[] ODD = {Integer.MIN_VALUE, -501, -17, -1, 0, 1, 15, 16, 17, 19, 20, 32, 499, 500, 501,
         1000, 1001, Integer.MAX_VALUE - 1, Integer.MAX_VALUE};
 
@@ -32,8 +34,8 @@ public final class RandomRunsTest {
         TimerWheel x = new TimerWheel();
         Told told = new Told();
         for (int call = 1; call <= CALLS; call++) {
-            int method = random.nextInt(20);
-            int a = argument(random, method < 16 && method != 4 && method != 5 && method != 6 ? 17 : span);
+            int method = random.nextInt(METHODS);
+            int a = argument(random, takesTicks(method) ? span : 17);
             int b = argument(random, span);
             int c = random.nextInt(3) == 0 ? 0 : argument(random, span);
             long got = answer(x, method, a, b, c);
@@ -68,9 +70,12 @@ public final class RandomRunsTest {
             case 15: return x.next();
             case 16: return x.now();
             case 17: return x.timers();
-            case 18: return x.rings();
-            default: return x.next();
+            default: return x.rings();
         }
+    }
+
+    private static boolean takesTicks(int method) {
+        return method >= 4 && method <= 6;
     }
 
     private static final class Told {
@@ -93,10 +98,10 @@ public final class RandomRunsTest {
                 case 12: return noted(a + 3, 1);
                 case 13: return noted(a, 0);
                 case 14: return noted(a, 1);
+                case 15: return set.isEmpty() ? -2 : nearest();
                 case 16: return time;
                 case 17: return set.keySet().stream().mapToLong(k -> 1L << k).sum();
-                case 18: return row.size();
-                default: return set.isEmpty() ? -2 : nearest();
+                default: return row.size();
             }
         }
 
