@@ -1,4 +1,5 @@
-// One method for each promise of the document: ordinary inputs, the edges it names, wrong inputs.
+// One method or more for each of promises 1 to 15: how the calls work together in ordinary use, with the nearest edges.
+// The sentences that name a boundary case, promise 16 among them, have a test each in BoundariesTest.
 public final class PromisesTest {
     private static final int BAD = -1;
     private static final int NONE = -2;
@@ -11,10 +12,8 @@ public final class PromisesTest {
         promise1NewObject();
         promise2Set();
         promise2SetInPlaceOfOldSetting();
-        promise2SetRefuses();
         promise3Cancel();
         promise4Pass();
-        promise4PassRefuses();
         promise4RingOrder();
         promise4Repeating();
         promise5ToNext();
@@ -27,10 +26,7 @@ public final class PromisesTest {
         promise12Rung();
         promise13RungAt();
         promise14Repeat();
-        promise14RepeatRefuses();
         promise15Period();
-        promise16RefusedCallsChangeNothing();
-        allCallsOfAnObject();
         objectsAreApart();
         System.out.println(wrong == 0 ? "all answers are as due" : wrong + " answers are not as due");
         if (wrong != 0) {
@@ -100,23 +96,6 @@ public final class PromisesTest {
         due("2: set anew after it rang", x.set(4, 1, 0), 529);
     }
 
-    private static void promise2SetRefuses() {
-        TimerWheel x = new TimerWheel();
-        int[] wrongTimers = {-1, 16, 31, 32, MIN, MAX};
-        for (int k : wrongTimers) {
-            due("2: timer " + k, x.set(k, 1, 0), BAD);
-        }
-        int[] wrongDelays = {0, -1, 501, MIN, MAX};
-        for (int delay : wrongDelays) {
-            due("2: delay " + delay, x.set(3, delay, 0), BAD);
-        }
-        int[] wrongPeriods = {-1, 501, MIN, MAX};
-        for (int period : wrongPeriods) {
-            due("2: period " + period, x.set(3, 1, period), BAD);
-        }
-        due("2: refused, none is set", x.timers(), 0);
-    }
-
     private static void promise3Cancel() {
         TimerWheel x = new TimerWheel();
         x.set(0, 10, 0);
@@ -163,19 +142,6 @@ public final class PromisesTest {
         }
         due("4: all timers at all ticks", x.pass(1000), 16000);
         due("4: no tick rings none again", x.pass(0), 0);
-    }
-
-    private static void promise4PassRefuses() {
-        TimerWheel x = new TimerWheel();
-        x.set(0, 1, 1);
-        int[] wrongTicks = {-1, 1001, MIN, MAX};
-        for (int n : wrongTicks) {
-            due("4: ticks " + n, x.pass(n), BAD);
-        }
-        due("4: refused, time", x.now(), 0);
-        due("4: refused, rings", x.rings(), 0);
-        due("4: refused, left", x.left(0), 1);
-        due("4: greatest", x.pass(1000), 1000);
     }
 
     private static void promise4RingOrder() {
@@ -428,29 +394,6 @@ public final class PromisesTest {
         due("14: at every tick", x.pass(11), 10);
     }
 
-    private static void promise14RepeatRefuses() {
-        TimerWheel x = new TimerWheel();
-        due("14: never set", x.repeat(0, 1), false);
-        due("14: refused, not set", x.timers(), 0);
-        x.set(0, 1, 0);
-        x.set(15, 5, 8);
-        x.pass(1);
-        due("14: has rung once", x.repeat(0, 1), false);
-        x.set(0, 7, 7);
-        x.cancel(0);
-        due("14: cancelled", x.repeat(0, 0), false);
-        int[] wrongPeriods = {-1, 501, MIN, MAX};
-        for (int period : wrongPeriods) {
-            due("14: period " + period, x.repeat(15, period), false);
-        }
-        int[] wrongTimers = {-1, 16, 31, 32, MIN, MAX};
-        for (int k : wrongTimers) {
-            due("14: timer " + k, x.repeat(k, 1), false);
-        }
-        due("14: refused, period", x.period(15), 8);
-        due("14: refused, left", x.left(15), 4);
-    }
-
     private static void promise15Period() {
         TimerWheel x = new TimerWheel();
         x.set(0, 3, 0);
@@ -469,87 +412,6 @@ public final class PromisesTest {
         for (int k : wrongTimers) {
             due("15: timer " + k, x.period(k), BAD);
         }
-    }
-
-    private static void promise16RefusedCallsChangeNothing() {
-        TimerWheel x = new TimerWheel();
-        x.set(0, 5, 6);
-        x.set(1, 2, 0);
-        x.set(15, 9, 0);
-        x.pass(3);
-        String before = stateOf(x);
-        due("16: set timer", x.set(16, 3, 3), BAD);
-        sameState(before, x, "set timer");
-        due("16: set delay 0", x.set(0, 0, 3), BAD);
-        sameState(before, x, "set delay 0");
-        due("16: set delay 501", x.set(0, 501, 3), BAD);
-        sameState(before, x, "set delay 501");
-        due("16: set period -1", x.set(0, 3, -1), BAD);
-        sameState(before, x, "set period -1");
-        due("16: set period 501", x.set(1, 3, 501), BAD);
-        sameState(before, x, "set period 501");
-        due("16: cancel not set", x.cancel(1), BAD);
-        sameState(before, x, "cancel not set");
-        due("16: cancel timer", x.cancel(-1), BAD);
-        sameState(before, x, "cancel timer");
-        due("16: pass -1", x.pass(-1), BAD);
-        sameState(before, x, "pass -1");
-        due("16: pass 1001", x.pass(1001), BAD);
-        sameState(before, x, "pass 1001");
-        due("16: repeat not set", x.repeat(1, 4), false);
-        sameState(before, x, "repeat not set");
-        due("16: repeat period", x.repeat(0, 501), false);
-        sameState(before, x, "repeat period");
-        due("16: repeat timer", x.repeat(16, 4), false);
-        sameState(before, x, "repeat timer");
-        due("16: rung", x.rung(1), NONE);
-        due("16: rungAt", x.rungAt(20), NONE);
-        due("16: left", x.left(1), BAD);
-        due("16: period", x.period(1), BAD);
-        sameState(before, x, "questions");
-
-        TimerWheel y = new TimerWheel();
-        y.set(2, 1, 0);
-        y.pass(4);
-        String atRest = stateOf(y);
-        due("16: toNext", y.toNext(), NONE);
-        sameState(atRest, y, "toNext");
-        due("16: next", y.next(), NONE);
-        sameState(atRest, y, "next");
-    }
-
-    private static void sameState(String before, TimerWheel x, String call) {
-        String after = stateOf(x);
-        if (!before.equals(after)) {
-            wrong++;
-            System.out.println("16: " + call + " changed " + before + " to " + after);
-        }
-    }
-
-    private static String stateOf(TimerWheel x) {
-        StringBuilder state = new StringBuilder();
-        state.append("now ").append(x.now()).append(" timers ").append(x.timers()).append(" rings ").append(x.rings());
-        state.append(" 0: ").append(x.left(0)).append('/').append(x.period(0));
-        state.append(" 1: ").append(x.left(1)).append('/').append(x.period(1));
-        state.append(" 15: ").append(x.left(15)).append('/').append(x.period(15));
-        state.append(" row: ").append(x.rung(0)).append('@').append(x.rungAt(0));
-        state.append(' ').append(x.rung(1)).append('@').append(x.rungAt(1));
-        return state.toString();
-    }
-
-    // The promises hold up to the 512th call: here every call lets as much time pass as one can.
-    private static void allCallsOfAnObject() {
-        TimerWheel x = new TimerWheel();
-        for (int k = 0; k < 16; k++) {
-            x.set(k, 1, 1);
-        }
-        for (int call = 17; call <= 508; call++) {
-            due("call " + call + ", pass", x.pass(1000), 16000);
-        }
-        due("call 509, rings", x.rings(), 492 * 16000);
-        due("call 510, now", x.now(), 492000);
-        due("call 511, rungAt", x.rungAt(19), 491999);
-        due("call 512, rung", x.rung(19), 12);
     }
 
     private static void objectsAreApart() {
