@@ -28,6 +28,7 @@ public final class PromisesTest {
         promise14Repeat();
         promise15Period();
         objectsAreApart();
+        readmeExample();
         System.out.println(wrong == 0 ? "all answers are as due" : wrong + " answers are not as due");
         if (wrong != 0) {
             System.exit(1);
@@ -423,5 +424,18 @@ public final class PromisesTest {
         due("apart: timers", y.timers(), 0);
         due("apart: rings", y.rings(), 0);
         due("apart: rung", y.rung(0), NONE);
+    }
+
+    // README.md tells these calls and answers; they change there when they change here.
+    private static void readmeExample() {
+        TimerWheel wheel = new TimerWheel();
+        due("README: set 0", wheel.set(0, 5, 0), 5);
+        due("README: set 1", wheel.set(1, 8, 3), 8);
+        due("README: pass", wheel.pass(5), 1);
+        due("README: toNext", wheel.toNext(), 3);
+        due("README: rung", wheel.rung(0), 1);
+        due("README: rungAt", wheel.rungAt(0), 8);
+        due("README: repeat", wheel.repeat(1, 0), true);
+        due("README: cancel", wheel.cancel(1), 3);
     }
 }
